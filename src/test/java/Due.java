@@ -27,6 +27,15 @@ final class Due {
         is(call + " leaves digest", x.digest(), digestBefore);
     }
 
+    /** The digest of an object whose numbers, in the document's order, are these. */
+    static long digestOf(long... row) {
+        long h = 353;
+        for (long v : row) {
+            h = 31 * h + v;
+        }
+        return h;
+    }
+
     static void holds(String what, boolean so) {
         is(what, so ? 1 : 0, 1);
     }
