@@ -29,7 +29,7 @@ public final class WonTogether {
     // Every number from 1 to 8 divides it, so that sums of such parts stay whole.
     private static final int PARTS_OF_EIGHT = 840;
 
-    private static final int[] FACTORIAL = {1, 1, 2, 6, 24, 120, 720, 5040, 40320};
+    private static final int[] FACTORIAL = {1, 1, 2, 6, 24, 120, 720, 5040};
 
     private final Fraction fraction = new Fraction();
     private final Worths worths = new Worths();
@@ -113,28 +113,42 @@ public final class WonTogether {
             return BAD;
         }
         if (what == 0) {
-            shares.tellLeastPay(worths, fraction);
+            shares.layLeastPay(worths);
+            shares.tellRow(worths.many, fraction);
             return 1;
         }
-        return shares.tellStrain(worths, fraction);
+        if (worths.many == 1) {
+            return 0;
+        }
+        shares.findCalm(worths);
+        shares.tellStrain(fraction);
+        return 1;
     }
 
     public int core() {
-        return shares.hasCore(worths) ? 1 : 0;
+        shares.layLeastPay(worths);
+        return shares.isWhole(worths) ? 1 : 0;
     }
 
     public int end(int side, int what) {
         if (!worths.knowsSide(side) || !within(what, 0, 1)) {
             return BAD;
         }
-        return shares.tellEnd(worths, side, what == 0 ? -1 : 1, fraction);
+        shares.layLeastPay(worths);
+        if (!shares.isWhole(worths)) {
+            return 0;
+        }
+        shares.driveSide(worths.many, side, what == 0 ? -1 : 1);
+        shares.tellRow(side, fraction);
+        return 1;
     }
 
     public int calm(int side) {
         if (!worths.knowsSide(side)) {
             return BAD;
         }
-        shares.tellCalm(worths, side, fraction);
+        shares.findCalm(worths);
+        shares.tellCalm(side, fraction);
         return 1;
     }
 
@@ -397,8 +411,8 @@ public final class WonTogether {
     }
 
     private static long commonFactor(long a, long b) {
-        long greater = Math.abs(a);
-        long lesser = Math.abs(b);
+        long greater = a < 0 ? -a : a;
+        long lesser = b < 0 ? -b : b;
         for (int turn = 0; turn < MANY_TURNS && lesser != 0; turn++) {
             long rest = greater % lesser;
             greater = lesser;
@@ -653,26 +667,25 @@ public final class WonTogether {
             return rows - 1;
         }
 
-        private boolean holds(int row, int column) {
-            return within(row, 0, rows - 1) && within(column, 0, columns - 1);
-        }
-
         private void putFactor(int row, int column, long factor) {
-            if (holds(row, column)) {
+            if (row >= 0 && row < rows && column >= 0 && column < columns) {
                 cell[row][FIRST + column] = factor;
             }
         }
 
         private long factorOf(int row, int column) {
-            return holds(row, column) ? cell[row][FIRST + column] : 0;
+            if (row < 0 || row >= rows || column < 0 || column >= columns) {
+                return 0;
+            }
+            return cell[row][FIRST + column];
         }
 
         private long constantOf(int row) {
-            return within(row, 0, rows - 1) ? cell[row][CONSTANT] : 0;
+            return row >= 0 && row < rows ? cell[row][CONSTANT] : 0;
         }
 
         private long belowOf(int row) {
-            return within(row, 0, rows - 1) ? cell[row][BELOW] : 1;
+            return row >= 0 && row < rows ? cell[row][BELOW] : 1;
         }
 
         /** Brings every column that is free in the beginning among the rows. */
@@ -737,9 +750,11 @@ public final class WonTogether {
                 return;
             }
             turnRow(cell[row], FIRST + column);
+            shorten(cell[row]);
             for (int other = 0; other < rows; other++) {
                 if (other != row && factorOf(other, column) != 0) {
                     replaceColumn(cell[other], cell[row], FIRST + column);
+                    shorten(cell[other]);
                 }
             }
             int set = rowSet[row];
@@ -756,7 +771,6 @@ public final class WonTogether {
             }
             row[at] = -sign * below;
             row[BELOW] = Math.abs(factor);
-            shorten(row);
         }
 
         private void replaceColumn(long[] row, long[] turned, int at) {
@@ -766,7 +780,6 @@ public final class WonTogether {
             for (int k = CONSTANT; k < FIRST + columns; k++) {
                 row[k] = row[k] * turned[BELOW] + factor * turned[k];
             }
-            shorten(row);
         }
 
         /** Lowest terms keep the numbers small, however many exchanges there are. */
@@ -921,70 +934,53 @@ public final class WonTogether {
             return true;
         }
 
-        private void tellLeastPay(Worths worths, Fraction told) {
-            int all = layLeastPay(worths);
-            told.put(board.constantOf(all), board.belowOf(all));
-        }
-
-        private boolean hasCore(Worths worths) {
-            return isWhole(worths, layLeastPay(worths));
-        }
-
-        private int tellEnd(Worths worths, int side, int sign, Fraction told) {
-            int all = layLeastPay(worths);
-            if (!isWhole(worths, all)) {
-                return 0;
-            }
-            board.freeze(all);
-            board.drive(side, sign);
-            told.put(board.constantOf(side), board.belowOf(side));
-            return 1;
-        }
-
-        private boolean isWhole(Worths worths, int all) {
-            return board.constantOf(all) == board.belowOf(all) * worths.of[worths.all()];
-        }
-
         /**
          * Lays out the shares without complaints at one where all together have the least.
          * Columns tell how much less than enough each side has; the first rows tell what the
-         * sides have. Answers the row that tells what all have together.
+         * sides have, and the next one what all have together.
          */
-        private int layLeastPay(Worths worths) {
+        private void layLeastPay(Worths worths) {
             int many = worths.many;
             board.restart(many);
             for (int side = 0; side < many; side++) {
                 addHaving(many, 0, 1 << side, 0);
             }
-            int all = addHaving(many, 0, worths.all(), 0);
+            addHaving(many, 0, worths.all(), 0);
             for (int set = 1; set <= worths.all(); set++) {
                 addHaving(many, set, set, worths.of[set]);
             }
             board.enterAll();
-            board.drive(all, -1);
-            return all;
+            board.drive(many, -1);
+        }
+
+        /** Whether the least pay that is laid out is just the worth of all: then that is the core. */
+        private boolean isWhole(Worths worths) {
+            int all = worths.many;
+            return board.constantOf(all) == board.belowOf(all) * worths.of[worths.all()];
+        }
+
+        private void driveSide(int all, int side, int sign) {
+            board.freeze(all);
+            board.drive(side, sign);
+        }
+
+        private void tellRow(int row, Fraction told) {
+            told.put(board.constantOf(row), board.belowOf(row));
         }
 
         /** A row that tells what a set has above a number. */
-        private int addHaving(int many, int name, int set, int above) {
+        private void addHaving(int many, int name, int set, int above) {
             int row = board.addRow(name, ENOUGH * Integer.bitCount(set) - above);
             for (int side = 0; side < many; side++) {
                 board.putFactor(row, side, has(set, side) ? -1 : 0);
             }
-            return row;
         }
 
-        private int tellStrain(Worths worths, Fraction told) {
-            if (worths.many == 1) {
-                return 0;
-            }
-            findCalm(worths);
+        private void tellStrain(Fraction told) {
             told.put(strain.above, strain.below);
-            return 1;
         }
 
-        private void tellCalm(Worths worths, int side, Fraction told) {
-            findCalm(worths);
+        private void tellCalm(int side, Fraction told) {
             told.put(calmest[side].above, calmest[side].below);
         }
 
@@ -997,6 +993,7 @@ public final class WonTogether {
                 return;
             }
             int bound = layWhole(worths);
+            board.enterAll();
             boolean first = true;
             // Each time at least one side's share is fixed by the others'.
             for (int turn = 0; turn < MOST_SIDES && board.columns > 0; turn++) {
@@ -1017,9 +1014,9 @@ public final class WonTogether {
         }
 
         /**
-         * Lays out the whole shares at a corner of those where no set complains more than one
-         * does if the last side has all. Columns tell what the other sides have of it; the
-         * first rows tell what the sides have. Answers that greatest complaint.
+         * Lays out the whole shares where no set complains more than one does if the last side
+         * has all, at that one. Columns tell what the other sides have of it; the first rows
+         * tell what the sides have. Answers that greatest complaint.
          */
         private int layWhole(Worths worths) {
             int many = worths.many;
@@ -1031,7 +1028,6 @@ public final class WonTogether {
             for (int set = 1; set < worths.all(); set++) {
                 addWholeHaving(worths, set, set, worths.of[set] - bound);
             }
-            board.enterAll();
             return bound;
         }
 
@@ -1194,7 +1190,7 @@ public final class WonTogether {
             int sum = 0;
             for (int set = 1; set <= allVoters(); set++) {
                 if (has(set, voter) && isLeastSet(set)) {
-                    sum += PARTS_OF_EIGHT / Integer.bitCount(set);
+                    sum += PARTS_OF_EIGHT / Math.max(1, Integer.bitCount(set));
                 }
             }
             return sum;

@@ -6,7 +6,9 @@ import java.lang.reflect.Modifier;
 import java.nio.file.Files;
 import java.nio.file.Path;
 import java.util.Arrays;
+import java.util.Map;
 import java.util.Set;
+import java.util.TreeMap;
 import java.util.TreeSet;
 import java.util.regex.Matcher;
 import java.util.regex.Pattern;
@@ -137,12 +139,49 @@ public final class FaceTest {
         }
     }
 
+    /** Which methods a method's text calls, by names: those that bear one name count as one. */
+    private static Map<String, Set<String>> calls(String code) {
+        Map<String, Set<String>> found = new TreeMap<>();
+        Matcher m = Pattern.compile("(?m)^( +)(?:public|private)(?: static)? [\\w\\[\\]]+ (\\w+)\\(.*\\{$"
+                + "\\n([\\s\\S]*?)^\\1\\}$").matcher(code);
+        while (m.find()) {
+            Matcher called = Pattern.compile("\\b(\\w+)\\(").matcher(m.group(3));
+            Set<String> names = found.computeIfAbsent(m.group(2), name -> new TreeSet<>());
+            while (called.find()) {
+                names.add(called.group(1));
+            }
+        }
+        return found;
+    }
+
+    /** How many calls stand open at most; an unending chain counts as far too many. */
+    private static int depth(Map<String, Set<String>> calls, String name, int open) {
+        int deepest = 1;
+        for (String next : calls.getOrDefault(name, Set.of())) {
+            if (open < 40 && !next.matches("if|for|while|switch")) {
+                deepest = Math.max(deepest, 1 + depth(calls, next, open + 1));
+            }
+        }
+        return deepest;
+    }
+
+    private static void callsStayShallow(String code) {
+        Map<String, Set<String>> calls = calls(code);
+        for (String method : FACE) {
+            String name = method.replaceAll("^\\w+ |\\(.*", "");
+            Due.holds("found: " + name, calls.containsKey(name));
+            int depth = depth(calls, name, 0);
+            Due.holds(name + " goes " + depth + " deep", depth <= 8);
+        }
+    }
+
     public static void main(String[] args) throws IOException {
         faceIsWhole();
         insideClassesArePlain();
         String code = code();
         codeKeepsToTheLanguage(code);
         methodsAreShort(code);
+        callsStayShallow(code);
         Due.end("FaceTest");
     }
 }
