@@ -632,7 +632,7 @@ public final class WonTogether {
      */
     private static final class Board {
         private static final int MOST_ROWS = 20;
-        private static final int MOST_COLUMNS = 5;
+        private static final int MOST_COLUMNS = MOST_SIDES;
         private static final int BELOW = 0;
         private static final int CONSTANT = 1;
         private static final int FIRST = 2;
@@ -744,9 +744,9 @@ public final class WonTogether {
             return own < others || own == others && rowSet[row] < rowSet[other];
         }
 
-        /** The row and the column change their parts. */
+        /** A row that the column makes less and the column change their parts. */
         private void exchange(int row, int column) {
-            if (factorOf(row, column) == 0) {
+            if (factorOf(row, column) >= 0) {
                 return;
             }
             turnRow(cell[row], FIRST + column);
@@ -763,14 +763,9 @@ public final class WonTogether {
         }
 
         private void turnRow(long[] row, int at) {
-            long factor = row[at];
             long below = row[BELOW];
-            long sign = factor < 0 ? 1 : -1;
-            for (int k = CONSTANT; k < FIRST + columns; k++) {
-                row[k] = sign * row[k];
-            }
-            row[at] = -sign * below;
-            row[BELOW] = Math.abs(factor);
+            row[BELOW] = -row[at];
+            row[at] = -below;
         }
 
         private void replaceColumn(long[] row, long[] turned, int at) {

@@ -66,6 +66,7 @@ public final class ClaimsTest {
         ruleIs(2, 450, 50, 150, 250);
         ruleIs(3, 150, 50, 50, 50);
         ruleIs(3, 200, 50, 75, 75);
+        ruleIs(3, 250, 50, 100, 100);
         ruleIs(3, 300, 50, 100, 150);
         ruleIs(3, 400, 50, 125, 225);
         ruleIs(3, 450, 50, 150, 250);
@@ -91,6 +92,10 @@ public final class ClaimsTest {
         WonTogether odd = claims(10, 3, 8);
         Due.told("half of an odd claim", odd, odd.award(0, 3), 5, 2);
         Due.told("half of an odd claim", odd, odd.award(1, 3), 15, 2);
+        WonTogether least = claims(1, 1);
+        for (int rule = 0; rule < 5; rule++) {
+            Due.told("the least claim, rule " + rule, least, least.award(0, rule), 1, 1);
+        }
         WonTogether six = claims(2, 1, 1, 1, 1, 1, 1);
         for (int rule = 0; rule < 5; rule++) {
             Due.told("like claims, rule " + rule, six, six.award(5, rule), 1, 3);

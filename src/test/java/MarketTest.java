@@ -84,6 +84,14 @@ public final class MarketTest {
         for (int k = 0; k < 16; k++) {
             far.gain(k / 4, k % 4, 1000);
         }
+        Due.is("nothing to pay fits", far.clear(), 1);
+        for (int s = 3; s >= 0; s--) {
+            Due.is("some prices do not", far.clear(), s == 3 ? 1 : 0);
+            far.tell(s, 1000);
+        }
+        Due.is("all of four fit", far.clear(), 1);
+        far.price(3, 0);
+        Due.is("a row after a price", far.most(3), 3);
         mostIs("the greatest", far, 4000, 0, 1, 2, 3);
         far.market(2, 0);
         mostIs("no sellers", far, 0, -1, -1);

@@ -203,6 +203,13 @@ public final class SharesTest {
         Due.is("whole, not alike", x.even(1), 0);
         x.worth(7, 11);
         Due.is("alike, not whole", x.even(0), 0);
+        WonTogether two = WorthsTest.game(2, 0, 0, 4);
+        two.give(0, 0, 1);
+        two.give(0, 1, 3);
+        Due.is("two, not alike", two.even(0), 0);
+        two.give(0, 0, 2);
+        two.give(0, 1, 2);
+        Due.is("two alike", two.even(0), 1);
         WonTogether one = WorthsTest.game(1, 3);
         Due.is("one, not whole", one.even(1), 0);
         one.give(1, 0, 3);
@@ -231,6 +238,11 @@ public final class SharesTest {
         x.give(0, 0, 4);
         Due.is("as much is not more", x.better(0), -1);
         Due.is("like shares", new WonTogether().better(0), -1);
+        WonTogether all = given(5, 5, 2, 4, 4, 1);
+        all.worth(3, 9);
+        all.worth(5, 6);
+        all.worth(6, 6);
+        Due.is("by all alone", all.better(0), 7);
         WonTogether first = given(-1, -2, 0, -2, -3, -1);
         Due.is("the first such set", first.better(0), 1);
         for (int a : new int[] {2, -1, LOW, HIGH}) {

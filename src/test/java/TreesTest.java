@@ -118,6 +118,15 @@ public final class TreesTest {
         Due.is("all just what they cost", last.held(), -1);
         last.pay(4, 4);
         Due.is("three of them", last.held(), 19);
+        WonTogether all = new WonTogether();
+        all.place(0, 6);
+        for (int user = 0; user < 3; user++) {
+            all.user(1);
+            all.pay(user, 3);
+        }
+        Due.is("all of them", all.held(), 7);
+        all.pay(0, 7);
+        Due.is("the first alone", all.held(), 1);
     }
 
     public static void main(String[] args) {

@@ -91,6 +91,15 @@ public final class VotesTest {
         Due.is("no voters", new WonTogether().minimal(0), -1);
         x.quota(11);
         Due.is("none wins", x.minimal(-1), 0);
+        WonTogether first = voters(5, 5, 0, 1);
+        Due.is("one voter wins", first.minimal(-1), 1);
+        Due.is("one voter wins", first.minimal(0), 1);
+        first.quota(6);
+        Due.is("the first and the last", first.minimal(0), 5);
+        first.weight(1, 1);
+        first.quota(7);
+        Due.is("all needed", first.minimal(-1), 1);
+        Due.is("all needed", first.minimal(0), 7);
         WonTogether eight = voters(4, 1, 1, 1, 1, 1, 1, 1, 1);
         Due.is("four of eight", eight.minimal(-1), 70);
         Due.is("the first four of eight", eight.minimal(0), 15);
@@ -122,6 +131,9 @@ public final class VotesTest {
         powerIs(x, 3, 1, 6, 1, 0);
         x.quota(11);
         powerIs(x, 0, 0, 0, 0, 1);
+        WonTogether first = voters(5, 5, 4);
+        powerIs(first, 0, 2, 2, 1, 0);
+        powerIs(first, 1, 0, 0, 0, 1);
         WonTogether eight = voters(8, 1, 1, 1, 1, 1, 1, 1, 1);
         powerIs(eight, 7, 1, 5040, 1, 0);
         int[][] wrong = {{4, 0}, {-1, 0}, {0, 4}, {0, -1}, {HIGH, 0}, {0, LOW}, {4, 4}};
@@ -144,6 +156,9 @@ public final class VotesTest {
         Due.refused("none wins, no voter", x, x.digest(), x.deegan(4), -2);
         x.quota(9);
         Due.told("in no least set", x, x.deegan(3), 0, 1);
+        WonTogether first = voters(5, 5, 4);
+        Due.told("one alone", first, first.deegan(0), 1, 1);
+        Due.told("one without need", first, first.deegan(1), 0, 1);
         WonTogether seven = voters(7, 1, 1, 1, 1, 1, 1, 1, 1);
         Due.told("seven of eight", seven, seven.deegan(5), 1, 8);
     }

@@ -47,6 +47,7 @@ public final class WorthsTest {
     private static void promise2Sides() {
         WonTogether x = mixedGame();
         x.give(1, 2, 8);
+        x.give(0, 0, 3);
         x.value(2, 1);
         for (int n : new int[] {0, 5, -1, -2, LOW, HIGH}) {
             Due.refused("sides(" + n + ")", x, x.digest(), x.sides(n), -2);
@@ -54,6 +55,7 @@ public final class WorthsTest {
         Due.is("sides(3) again", x.sides(3), 1);
         Due.is("sides(3) sets worths 0", x.worth(7, 0), 0);
         Due.is("sides(3) sets shares 0", x.give(1, 2, 0), 0);
+        Due.is("sides(3) sets shares 0", x.give(0, 0, 0), 0);
         Due.is("sides leaves the fraction", x.part(0), -1);
         Due.is("sides leaves the fraction", x.part(1), 2);
         for (int n = 1; n <= 4; n++) {
@@ -117,10 +119,13 @@ public final class WorthsTest {
         WonTogether one = game(1, -7);
         Due.is("the only order of one", one.margin(0, 0), -7);
         Due.is("no order of one", one.margin(1, 0), -100000);
+        Due.is("one and a digit too many", one.margin(4, 0), -100000);
+        Due.is("one and a digit below 0", one.margin(-4, 0), -100000);
         WonTogether two = game(2, 3, 4, 10);
         Due.is("margin 1 0 of 0", two.margin(4, 0), 6);
         Due.is("margin 0 1 of 1", two.margin(1, 1), 7);
         Due.is("no order of two", two.margin(6, 1), -100000);
+        Due.is("two and a digit too many", two.margin(17, 1), -100000);
         WonTogether four = game(4, 0, 0, 0, 0, 0, 0, 11, 0, 0, 0, 0, 0, 0, 2, 50);
         Due.is("margin 0 1 2 3 of 3", four.margin(27, 3), 39);
         Due.is("margin 3 2 1 0 of 0", four.margin(228, 0), 48);
@@ -190,6 +195,8 @@ public final class WorthsTest {
         partingIs("the first row", game(4, 0, 0, 1, 0, 1, 0, 0, 0, 0, 0, 0, 0, 0, 0, 0), 1, 0, 0, 2, 2);
         partingIs("the first row", game(4, 0, 0, 1, 0, 1, 0, 1, 0, 0, 0, 0, 0, 0, 0, 0), 1, 0, 0, 0, 3);
         partingIs("two and two across", game(4, 0, 0, 0, 0, 0, 3, 0, 0, 3, 0, 0, 0, 0, 0, 5), 6, 0, 1, 1, 0);
+        partingIs("fewest sets, though not the first row", game(4, 0, 0, 1, 0, 0, 0, 0, 0, 1, 0, 0, -1,
+                0, 0, 0), 1, 0, 1, 1, 0);
         partingIs("losses", game(2, -5, -5, -5), -5, 0, 0);
         partingIs("losses apart", game(2, -2, -2, -5), -4, 0, 1);
         partingIs("one", game(1, 6), 6, 0);
