@@ -2,15 +2,25 @@
 final class Due {
     private static int asked = 0;
     private static int wrong = 0;
+    private static String during = "";
 
     private Due() {
+    }
+
+    /** What is printed ahead of every wrong answer from now on. */
+    static void during(String test) {
+        during = test;
+    }
+
+    static int asked() {
+        return asked;
     }
 
     static void is(String call, long got, long want) {
         asked++;
         if (got != want) {
             wrong++;
-            System.out.println(call + " answered " + got + ", due is " + want);
+            System.out.println(during + call + " answered " + got + ", due is " + want);
         }
     }
 
