@@ -22,12 +22,22 @@ abstract class Edge {
     private static final Document DOCUMENT = Document.read();
     private static final boolean[] TESTED = new boolean[Document.PROMISES + 1];
     private static int tests = 0;
+    private static boolean telling = false;
+
+    /** From now on the name of each test is printed. */
+    static void tellNames() {
+        telling = true;
+    }
 
     /** A test of what these words of a promise (or of the terms, for it) say of one case. */
     static void edge(int promise, String words, String which, Runnable test) {
         tests++;
         TESTED[promise] = true;
-        Due.during("promise " + promise + ", \"" + words + "\", " + which + ": ");
+        String name = "promise " + promise + ", \"" + words + "\", " + which;
+        if (telling) {
+            System.out.println(name);
+        }
+        Due.during(name + ": ");
         if (DOCUMENT != null) {
             Due.holds("the document says so", DOCUMENT.quote(promise, words));
         }

@@ -4,6 +4,9 @@ public final class EdgesTest {
     }
 
     public static void main(String[] args) {
+        if (args.length > 0 && args[0].equals("names")) {
+            Edge.tellNames();
+        }
         WorthsEdges.run();
         SharesEdges.run();
         VotesEdges.run();
