@@ -175,8 +175,49 @@ public final class FaceTest {
         }
     }
 
+    /** The face as the document writes it: the same lines in the same order, and by promises. */
+    private static void faceIsTheDocuments() throws IOException {
+        Path place = Path.of("../shared/DOC.md");
+        if (!Files.exists(place)) {
+            System.out.println("no " + place + ": the face is not held against it");
+            return;
+        }
+        String document = Files.readString(place);
+        String text = Files.readString(Path.of("src/main/java/WonTogether.java"));
+        int at = 0;
+        int lines = 0;
+        Matcher line = Pattern.compile("(?m)^ *(public .*?)(;| \\{)$").matcher(document);
+        while (line.find()) {
+            String due = line.group(1) + (line.group(1).endsWith(")") ? " {" : line.group(2));
+            int found = text.indexOf(due, at);
+            Due.holds("in the document's order: " + due, found >= 0);
+            at = Math.max(at, found);
+            lines++;
+        }
+        Due.is("lines of the face", lines, FACE.length + 3);
+        Matcher promise = Pattern.compile("(?m)^## Promise (\\d+): (\\w+)\\n\\n`(\\w+ .*?)`:").matcher(document);
+        for (int k = 2; promise.find(); k++) {
+            Due.is("promises with a call, in order", Integer.parseInt(promise.group(1)), k);
+            Due.is("its place in the face", FACE[k - 2].indexOf(" " + promise.group(2) + "("), FACE[k - 2].indexOf(' '));
+            Due.holds("its words: " + promise.group(3), text.contains("public " + promise.group(3) + " {"));
+        }
+    }
+
+    /** What the document says stands ahead of some calls stands there, ahead of the first. */
+    private static void groupsAreNamed() throws IOException {
+        String text = Files.readString(Path.of("src/main/java/WonTogether.java"));
+        String[] names = {"worths", "shares", "votes", "claims", "trees, markets"};
+        String[] first = {"sides", "least", "voter", "claim", "place"};
+        for (int k = 0; k < names.length; k++) {
+            Due.holds("ahead of " + first[k] + ": " + names[k],
+                    text.contains("    // ---- " + names[k] + "\n\n    public int " + first[k] + "("));
+        }
+    }
+
     public static void main(String[] args) throws IOException {
         faceIsWhole();
+        faceIsTheDocuments();
+        groupsAreNamed();
         insideClassesArePlain();
         String code = code();
         codeKeepsToTheLanguage(code);
